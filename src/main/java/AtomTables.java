@@ -971,8 +971,8 @@ public final class AtomTables {
         Wheels() {
         }
 
-        /** The highest wheel whose setting does not go with those above it; -1: all do. */
-        abstract int clash();
+        /** The highest wheel, from a place down, whose setting does not go with those above it; -1: all do. */
+        abstract int clash(int from);
 
         void span(int wheels, int lowest, int highest) {
             size = wheels;
@@ -994,41 +994,40 @@ public final class AtomTables {
                 at[p] = low[p];
                 can = can && low[p] <= high[p];
             }
-            return can && settle();
+            return can && settle(size - 1);
         }
 
         boolean next() {
-            return turn(0) && settle();
+            int risen = turn(0);
+            return risen < size && settle(risen);
         }
 
-        /** Below a wheel that clashes nothing need be tried. */
-        private boolean settle() {
-            for (int turn = 0; turn < MANY; turn++) {
-                int p = clash();
+        /** Below a wheel that clashes nothing need be tried, above one that rose all goes still. */
+        private boolean settle(int from) {
+            int risen = from;
+            for (int turn = 0; turn < MANY && risen < size; turn++) {
+                int p = clash(risen);
                 if (p < 0) {
                     return true;
                 }
-                if (!turn(p)) {
-                    return false;
-                }
+                risen = turn(p);
             }
             return false;
         }
 
-        /** The next setting that is another one at place p or above it; false: there is none. */
-        private boolean turn(int p) {
+        /** The next setting that is another one at place p or above it: which wheel rose; size: none can. */
+        private int turn(int p) {
             int risen = p;
             while (risen < size && at[risen] >= high[risen]) {
                 risen++;
             }
-            if (risen >= size) {
-                return false;
+            if (risen < size) {
+                at[risen]++;
+                for (int q = 0; q < risen; q++) {
+                    at[q] = low[q];
+                }
             }
-            at[risen]++;
-            for (int q = 0; q < risen; q++) {
-                at[q] = low[q];
-            }
-            return true;
+            return risen;
         }
 
         /** The settings as digits, each with so much more. */
@@ -1083,8 +1082,8 @@ public final class AtomTables {
             span(small.size, 0, big.size - 1);
         }
 
-        int clash() {
-            for (int p = size - 2; p >= 0; p--) {
+        int clash(int from) {
+            for (int p = from; p >= 0; p--) {
                 for (int q = p + 1; q < size; q++) {
                     int label = big.labels[MOST_NODES * at[p] + at[q]];
                     if (at[p] == at[q] || small.labels[MOST_NODES * p + q] != label) {
@@ -1110,8 +1109,8 @@ public final class AtomTables {
             span(net.size, 1, table.size - 1);
         }
 
-        int clash() {
-            for (int p = size - 2; p >= 0; p--) {
+        int clash(int from) {
+            for (int p = from; p >= 0; p--) {
                 for (int q = p + 1; q < size; q++) {
                     if (!table.has(net.at(p, q), at[q], at[p])) {
                         return p;
@@ -1221,14 +1220,16 @@ public final class AtomTables {
             Rows tried = rows[rounds - 1];
             findGaps(gaps);
             tried.spanAll();
+            boolean open = isOpen(gaps);
             boolean more = tried.first();
-            for (int turn = 0; turn < MANY && more && isOpen(gaps); turn++) {
+            for (int turn = 0; turn < MANY && more && open; turn++) {
                 if (answers(gaps, tried.at) && stands(tried.at, rounds - 1)) {
                     strike(gaps, tried.at);
+                    open = isOpen(gaps);
                 }
                 more = tried.next();
             }
-            return !isOpen(gaps);
+            return !open;
         }
 
         private void findGaps(int[] gaps) {
@@ -1250,14 +1251,11 @@ public final class AtomTables {
             return false;
         }
 
-        private int answered(int[] row, int i, int j) {
-            return 1 << (4 * row[i] + sheet.table.mirror[row[j]]);
-        }
-
         private boolean answers(int[] gaps, int[] row) {
+            int[] mirror = sheet.table.mirror;
             for (int i = 0; i < stage.size; i++) {
                 for (int j = i; j < stage.size; j++) {
-                    if ((gaps[MOST_NODES * i + j] & answered(row, i, j)) != 0) {
+                    if ((gaps[MOST_NODES * i + j] >> (4 * row[i] + mirror[row[j]]) & 1) == 1) {
                         return true;
                     }
                 }
@@ -1266,9 +1264,10 @@ public final class AtomTables {
         }
 
         private void strike(int[] gaps, int[] row) {
+            int[] mirror = sheet.table.mirror;
             for (int i = 0; i < stage.size; i++) {
                 for (int j = i; j < stage.size; j++) {
-                    gaps[MOST_NODES * i + j] &= ~answered(row, i, j);
+                    gaps[MOST_NODES * i + j] &= ~(1 << (4 * row[i] + mirror[row[j]]));
                 }
             }
         }
@@ -1427,9 +1426,13 @@ public final class AtomTables {
 
         /**
          * The least number of points with a true picture, whose steps are in steps then. The highest
-         * wheel is step 1, wheel 0 the last step that hangs on no lesser one.
+         * wheel is step 1, wheel 0 the last step that hangs on no lesser one. Steps of a true picture are
+         * added as its atoms are composed, so a table with a broken three has none.
          */
         int search() {
+            if (table.unbalanced(false) != NOT) {
+                return NOT;
+            }
             readDue();
             for (int m = 2; m <= LIST_PLACES + 1; m++) {
                 points = m;
@@ -1446,8 +1449,8 @@ public final class AtomTables {
         }
 
         /** Lays the steps, and their converses, while it goes. */
-        int clash() {
-            for (int p = size - 1; p >= 0; p--) {
+        int clash(int from) {
+            for (int p = from; p >= 0; p--) {
                 int d = size - p;
                 int atom = at[p];
                 if (2 * d == points && table.mirror[atom] != atom) {
