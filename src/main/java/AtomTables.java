@@ -821,7 +821,7 @@ public final class AtomTables {
         }
     }
 
-    /** Nodes with an atom from each to each. */
+    /** Nodes with an atom from each to each; from a node to itself 0 stands, and is never written over. */
     static final class Net {
         int size = 0;
         final int[] labels = new int[MOST_NODES * MOST_NODES];
@@ -850,7 +850,6 @@ public final class AtomTables {
             for (int i = 0; i < size; i++) {
                 link(i, size, row[i], table);
             }
-            link(size, size, 0, table);
             size++;
         }
 

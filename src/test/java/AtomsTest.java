@@ -83,6 +83,10 @@ public final class AtomsTest {
         Check.due("2 is 3's", x.converse(4), 8);
         Check.due("pair 3 2", x.pair(3, 2), 2);
         Check.due("3 is 2's", x.converse(8), 4);
+        Check.due("pair 1 2: the second has a partner", x.pair(1, 2), 2);
+        Check.due("3 is its own then", x.converse(8), 8);
+        Check.due("pair 3 2", x.pair(3, 2), 2);
+        Check.due("1 is its own again", x.converse(2), 2);
         Check.due("x x' 0", x.isIn(2, 3, 0), 1);
         Check.due("x x 0", x.isIn(2, 2, 0), 0);
         x.triangle(1, 1, 1, 1);

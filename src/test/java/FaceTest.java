@@ -96,18 +96,27 @@ public final class FaceTest {
 
     private static void source() throws Exception {
         List<String> lines = Files.readAllLines(Path.of("src/main/java/AtomTables.java"));
-        int began = 0;
         for (int i = 0; i < lines.size(); i++) {
+            String where = "line " + (i + 1) + ": ";
             String code = lines.get(i).replaceAll("//.*|/\\*.*|^\\s*\\*.*", "").replaceAll("\"[^\"]*\"", "\"\"");
-            for (String word : WORDS_OUTSIDE) {
-                Check.holds("line " + (i + 1) + ": no " + word, !code.matches(".*\\b" + word + "\\b.*"));
-            }
-            Check.holds("line " + (i + 1) + ": no lambda, no method reference", !code.contains("->") && !code.contains("::"));
-            boolean field = code.contains(" final ") && code.contains("=");
-            boolean part = code.matches("\\s+(this\\.rows|rows\\[r\\]|nets\\[net\\]) = new .*");
-            Check.holds("line " + (i + 1) + ": objects are made with the object alone", !code.contains("new ") || field || part);
-            if (code.matches("    (    )?(public|private|static|abstract|int|long|boolean|void|[A-Z]\\w+).*\\) \\{")) began = i;
-            if (code.matches("    (    )?\\}")) Check.holds("line " + (began + 1) + ": sixty lines at most", i - began <= 60 || code.matches("    \\}"));
+            for (String word : WORDS_OUTSIDE) Check.holds(where + "no " + word, !code.matches(".*\\b" + word + "\\b.*"));
+            Check.holds(where + "no lambda, no method reference", !code.contains("->") && !code.contains("::"));
+            Check.holds(where + "objects are made in initialisers and constructors alone", !code.contains("new ") || isMaking(code));
+            if (code.matches("( {4}| {8})\\w.*\\) \\{")) Check.holds(where + "sixty lines at most", length(lines, i) <= 60);
         }
+    }
+
+    /** A field's initialiser, or a part that a constructor makes. */
+    private static boolean isMaking(String code) {
+        boolean field = code.matches("( {4}| {8})(private )?final .* = new .*");
+        return field || code.matches(" +(this\\.rows|rows\\[r\\]|nets\\[net\\]) = new .*");
+    }
+
+    /** How many lines a method has whose head stands there. */
+    private static int length(List<String> lines, int head) {
+        String indent = lines.get(head).replaceAll("\\S.*", "");
+        int end = head;
+        while (!lines.get(end).equals(indent + "}")) end++;
+        return end - head + 1;
     }
 }

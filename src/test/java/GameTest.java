@@ -16,6 +16,7 @@ public final class GameTest {
         begin();
         answer();
         answerByWhatIsThen();
+        answerOfTwoNodes();
         later();
         board();
         take();
@@ -208,6 +209,16 @@ public final class GameTest {
         boolean there = false;
         for (int k = 0; k < y.gap(1, -1); k++) there |= y.gap(1, k) == 122;
         Check.holds("though it is one", there);
+    }
+
+    private static void answerOfTwoNodes() {
+        AtomTables x = Check.table("atoms 3;in 1 1 1;in 1 1 2;in 1 2 2;in 2 2 2");
+        Check.nodes(x, 0, 0, 1);
+        x.begin(0);
+        while (x.ask(0) != 112) x.later();
+        // by 1 from 0, by 2 to 1; anything is sound
+        for (int digits : new int[] {11, 12, 22}) Check.due("answer " + digits, x.answer(digits), NOT);
+        Check.due("answer 21", x.answer(21) > 0 ? 1 : 0, 1);
     }
 
     private static void later() {

@@ -185,7 +185,7 @@ public final class NetworksTest {
         for (int bad : NO_NET) Check.due("fills: net", y.fills(bad, 22, -1), NONE);
         Check.due("fills: k", y.fills(0, 9, -2), NONE);
         Check.due("fills: k far below", y.fills(0, 22, MIN), NONE);
-        for (int gap : new int[] {11, 0, 5, -22, -1, 222 + 10000, 2022, 322, 3322, 33, 1022, 20, 2, 23, 32, MIN, MAX}) {
+        for (int gap : new int[] {11, 16, 96, 0, 5, -22, -1, 222 + 10000, 2022, 322, 3322, 33, 1022, 20, 2, 23, 32, MIN, MAX}) {
             Check.due("no gap " + gap, y.fills(0, gap, 7), BAD);
         }
         y.relabel(0, 0, 1, 2);
@@ -230,6 +230,16 @@ public final class NetworksTest {
         // 0 1 and 1 2 are beside one another, 0 2 across
         Check.due("nothing in three", x.occurs(2, 1, -1), 1);
         Check.due("three in nothing", x.occurs(1, 2, -1), 0);
+        Check.nodes(x, 2, 0);
+        Check.due("one in three", x.occurs(2, 1, -1), 3);
+        Check.due("the last", x.occurs(2, 1, 2), 3);
+        x.copy(0, 1);
+        x.drop(0);
+        x.drop(0);
+        Check.due("one in nothing", x.occurs(2, 0, -1), 0);
+        x.drop(2);
+        x.copy(1, 0);
+        x.node(1, 12);
         Check.due("three in two", x.occurs(1, 0, -1), 0);
         Check.due("two in three", x.occurs(0, 1, -1), 4);
         int[] due = {12, 21, 23, 32};

@@ -59,6 +59,7 @@ public final class PicturesTest {
         Check.due("0", judged(x, 1, 0, 2, 1), 1);
         Check.due("the other end is 0", judged(x, 1, 2, 0, 1), 1);
         Check.due("3 is no atom", judged(x, 3, 2, 2, 1), 0);
+        Check.due("3 is no atom at both ends", judged(x, 3, 2, 1, 2, 3), 0);
         Check.due("the other end is none", judged(x, 1, 2, 2, 3), 0);
         Check.due("below 0", judged(x, 1, -1, -1, 1), 1);
         Check.due("far beyond an int", judged(x, 1, 2, (1L << 32) + 2, 1), 1);
@@ -103,6 +104,10 @@ public final class PicturesTest {
         y.put(1, 2, 77);
         Check.due("there is none", y.found(1), NOT);
         Check.due("the list stays", y.get(1, 2), 77);
+        AtomTables odd = Check.table("atoms 3;pair 1 2");
+        Check.due("a broken table has none", odd.found(0), NOT);
+        Check.due("and the list is missing still", odd.get(0, 0), AtomTables.VOID);
+        Check.due("and not there", odd.count(3), 0);
         AtomTables z = Check.table(RING);
         z.list(0, 12);
         found(z, 0, 1, 2, 2, 1);
@@ -135,10 +140,12 @@ public final class PicturesTest {
         Check.due("missing still", x.count(3), 0);
         Check.due("12", x.list(0, 12), 1);
         Check.due("the last place", x.get(0, 11), 0);
+        x.put(0, 0, 6);
         x.put(0, 1, 5);
         Check.due("0", x.list(1, 0), 1);
         Check.due("two are there", x.count(3), 2);
         Check.due("shorter", x.list(0, 2), 1);
+        Check.due("all 0", x.get(0, 0), 0);
         Check.due("all 0", x.get(0, 1), 0);
         Check.due("no more than that", x.get(0, 2), AtomTables.VOID);
         Check.due("gone", x.list(0, -1), 1);

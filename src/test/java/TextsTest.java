@@ -71,6 +71,13 @@ public final class TextsTest {
         fault("atom 3", 0);
         fault("atomss 3", 0);
         fault("ATOMS 3", 0);
+        fault("etoms 3", 0);
+        fault("lair 1 1", 0);
+        fault("on 1 1 1", 0);
+        fault("put 1 1 1", 0);
+        fault("atomt 3", 0);
+        fault("inz 1 1 1", 0);
+        fault("ain 1 1 1", 0);
         fault("atoms", 5);
         fault("atoms ", 6);
         fault("atoms3", 5);
@@ -107,6 +114,7 @@ public final class TextsTest {
     private static void refusedStatements() {
         AtomTables x = new AtomTables();
         Check.due("atoms 5", Check.reading(x, "atoms 5"), -300);
+        Check.due("atoms 9", Check.reading(x, "atoms 9"), -300);
         Check.due("atoms 0", Check.reading(x, "atoms 0;atoms 3"), -300);
         Check.due("nothing done", x.count(0), 1);
         Check.due("pair 0 1", Check.reading(x, "atoms 3;pair 0 1;in 1 1 1"), -301);
@@ -175,13 +183,16 @@ public final class TextsTest {
         x.relabel(0, 0, 1, 3);
         x.drop(2);
         x.node(1, 0);
-        x.forbid(-1);
+        x.forbid(1);
         x.triangle(1, 1, 1, 0);
         x.triangle(3, 3, 3, 1);
         Check.due("undo", x.undo(), 4);
         checkUndone(x);
         Check.due("a list is no part of it", x.get(0, 0), 9);
         Check.due("nor is the tape", x.count(2), 1);
+        x.forbid(-1);
+        x.undo();
+        checkUndone(x);
         x.atoms(2);
         Check.due("undo again", x.undo(), 4);
         checkUndone(x);
@@ -200,6 +211,8 @@ public final class TextsTest {
         Check.due("nodes", x.count(1), 5);
         Check.due("nodes of 2", x.label(2, 1, 0), 3);
         Check.due("forbidden", x.count(4), 2);
+        Check.due("what is forbidden", x.begin(2), STATE);
+        Check.due("what is not", x.won(0, 0), 1);
         Check.due("no board", x.board(0), STATE);
     }
 
