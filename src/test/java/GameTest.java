@@ -215,7 +215,8 @@ public final class GameTest {
         AtomTables x = Check.table("atoms 3;in 1 1 1;in 1 1 2;in 1 2 2;in 2 2 2");
         Check.nodes(x, 0, 0, 1);
         x.begin(0);
-        while (x.ask(0) != 112) x.later();
+        for (int turn = 0; turn < 9 && x.ask(0) != 112; turn++) x.later();
+        Check.due("ask", x.ask(0), 112);
         // by 1 from 0, by 2 to 1; anything is sound
         for (int digits : new int[] {11, 12, 22}) Check.due("answer " + digits, x.answer(digits), NOT);
         Check.due("answer 21", x.answer(21) > 0 ? 1 : 0, 1);
