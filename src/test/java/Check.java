@@ -2,24 +2,40 @@
 final class Check {
     private static int wrong = 0;
     private static int asked = 0;
+    /** The test that runs, told ahead of what is wrong in it. */
+    private static String where = "";
 
     private Check() {
     }
 
     static void due(String call, long got, long want) {
         asked++;
-        if (got != want) {
-            wrong++;
-            System.out.println(call + " answered " + got + ", due is " + want);
-        }
+        if (got != want) tell(call + " answered " + got + ", due is " + want);
     }
 
     static void holds(String what, boolean is) {
         asked++;
-        if (!is) {
-            wrong++;
-            System.out.println("it does not hold: " + what);
-        }
+        if (!is) tell("it does not hold: " + what);
+    }
+
+    /** The first of what is wrong are told, all of them counted. */
+    private static void tell(String fault) {
+        wrong++;
+        if (wrong <= 40) System.out.println(where + fault);
+    }
+
+    static void in(String test) {
+        where = test.isEmpty() ? "" : test + ": ";
+    }
+
+    /** Two texts of lines are alike; if not, the first line that differs is told. */
+    static void same(String what, String got, String want) {
+        String[] is = got.split("\n");
+        String[] due = want.split("\n");
+        int line = 0;
+        while (line < is.length && line < due.length && is[line].equals(due[line])) line++;
+        String differs = line < is.length ? is[line] : "nothing";
+        holds(what + " is as due, line " + line + ": " + differs, got.equals(want));
     }
 
     /** A new object whose table is told by a text. */
