@@ -189,6 +189,23 @@ public final class GameBoundsTest {
         Check.due("the first that nothing fills", y.killer(0, 1), firstEmpty(y, 0));
     }
 
+    /** All gaps but the last can be filled: 1;3 is empty, so node 1 gets no node by 3. */
+    static void p25TheLastOfAll() {
+        AtomTables x = Check.table("atoms 4;pair 1 2;in 1 1 1;in 1 2 3");
+        Bounds.nodes(x, 0, 0, 1);
+        Check.due("gaps", x.gap(0, -1), 8);
+        Check.due("the last", x.gap(0, 7), 1133);
+        for (int k = 0; k < 7; k++) Check.due("it can be filled", x.fills(0, x.gap(0, k), -1) > 0 ? 1 : 0, 1);
+        Check.due("killer", x.killer(0, 1), 1133);
+        // a game of three nodes, lost by other gaps, leaves nothing behind
+        Bounds.nodes(x, 1, 0, 1, 11);
+        Bounds.nodes(x, 2, 0, 3);
+        x.forbid(2);
+        Check.due("killer of three", x.killer(1, 1), 33);
+        x.forbid(-1);
+        Check.due("killer again", x.killer(0, 1), 1133);
+    }
+
     /** The first gap without a way to fill it. */
     private static int firstEmpty(AtomTables x, int net) {
         int k = 0;
@@ -298,6 +315,16 @@ public final class GameBoundsTest {
         asks(x);
     }
 
+    static void p27NothingOfOldIsAsked() {
+        AtomTables x = new AtomTables();
+        askingBoard(x);
+        Bounds.nodes(x, 1, 0);
+        Check.due("fewer asks", x.begin(1), 2);
+        asks(x, 12, 21);
+        Check.due("answer", x.answer(1), 5);
+        asks(x, 21, 111, 112, 121, 1112);
+    }
+
     static void p27ACopy() {
         AtomTables x = new AtomTables();
         askingBoard(x);
@@ -389,6 +416,19 @@ public final class GameBoundsTest {
         bringForward(x, 212);
         for (int digits : new int[] {111, 121, 112, 122, 212, 222}) Check.due("answer " + digits, x.answer(digits), NOT);
         Check.holds("211", x.answer(211) > 0);
+    }
+
+    static void p29BetweenTheLastTwoOfFive() {
+        AtomTables x = Check.table(Bounds.LOOSE);
+        Bounds.nodes(x, 0, 0, 2, 22, 222, 2222);
+        for (int digits : new int[] {11222, 11111, 11212}) {
+            x.begin(0);
+            bringForward(x, 3411);
+            Check.due("from 3 by 2", x.answer(12222), NOT);
+            Check.due("to 4 by 2", x.answer(21222), NOT);
+            Check.due("both", x.answer(22111), NOT);
+            Check.holds("answer " + digits, x.answer(digits) > 0);
+        }
     }
 
     private static void bringForward(AtomTables x, int gap) {

@@ -441,6 +441,22 @@ public final class NetworksBoundsTest {
         Bounds.refused("no gap", Bounds::rich, y -> y.fills(0, 11, 0), BAD);
     }
 
+    /** Each number that is no gap is none, also where its figures would run into one another. */
+    static void p21AllNumbers() {
+        for (int from = -400; from < 7200; from += 400) {
+            AtomTables x = Check.table(Bounds.LOOSE);
+            Bounds.nodes(x, 0, 0, 1, 11);
+            for (int gap = from; gap < from + 400; gap++) {
+                int i = gap / 1000;
+                int j = gap / 100 % 10;
+                boolean self = i == j && gap % 100 == 22;
+                boolean two = i < j && (gap % 100 == 12 || gap % 100 == 21 || gap % 100 == 22);
+                boolean is = gap > 0 && j < 3 && (self || two);
+                Check.due("fills of " + gap, x.fills(0, gap, -1), is ? (self ? 4 : 2) : BAD);
+            }
+        }
+    }
+
     static void p21NotSound() {
         AtomTables x = new AtomTables();
         Bounds.rich(x);
