@@ -8,34 +8,42 @@ import java.util.Arrays;
 import java.util.List;
 import java.util.Set;
 import java.util.TreeSet;
+import java.util.regex.Matcher;
+import java.util.regex.Pattern;
 
-/** The public face, to the letter, and those rules of LANGUAGE.md that can be seen from outside. */
+/** The public face, by the document's own lines, and those rules of LANGUAGE.md that can be seen from outside. */
 public final class FaceTest {
-    private static final String[] FACE = {
-        "int atoms(int)", "int pair(int, int)", "int converse(int)", "int triangle(int, int, int, int)",
-        "int isIn(int, int, int)", "int compose(int, int)", "int over(int, int, int)", "int power(int, int)",
-        "int equivalence(int)", "int solved(int, int, int, int)", "int broken(int)", "int cycles(int)",
-        "int node(int, int)", "int drop(int)", "int label(int, int, int)", "int relabel(int, int, int, int)",
-        "int copy(int, int)", "int sound(int)", "int gap(int, int)", "int fills(int, int, int)",
-        "int occurs(int, int, int)", "int forbid(int)", "int won(int, int)", "int killer(int, int)",
-        "int lasts(int)", "int begin(int)", "int ask(int)", "int answer(int)", "int later()", "int board(int)",
-        "int take(int)", "int judge(int)", "int found(int)", "int list(int, int)", "int put(int, int, long)",
-        "long get(int, int)", "int feed(int)", "int wipe()", "int read()", "int spelled(int)", "int image()",
-        "int undo()", "int count(int)"};
+    private static final Pattern METHOD = Pattern.compile("public (int|long) (\\w+)\\((.*)\\);");
+    private static final Pattern CONSTANTS = Pattern.compile("public static final (int|long) (.*);");
+    private static final Pattern PROMISE = Pattern.compile("## Promise (\\d+): (.*)");
     private static final String[] WORDS_OUTSIDE = {
         "throw", "throws", "try", "catch", "synchronized", "assert", "import", "package", "instanceof", "protected"};
 
     public static void main(String[] args) throws Exception {
-        methods();
-        constants();
+        List<String> document = Files.readAllLines(Path.of("../shared/DOC.md"));
+        methods(face(document));
+        constants(face(document));
+        promises(document);
         members();
         nested();
         source();
         Check.end("FaceTest");
     }
 
-    private static void methods() {
-        Set<String> due = new TreeSet<>(Arrays.asList(FACE));
+    /** The lines of the document's face. */
+    private static List<String> face(List<String> document) {
+        int head = document.indexOf("## The public face");
+        int from = head + document.subList(head, document.size()).indexOf("```java") + 1;
+        int to = from + document.subList(from, document.size()).indexOf("```");
+        return document.subList(from, to);
+    }
+
+    private static void methods(List<String> face) {
+        Set<String> due = new TreeSet<>();
+        for (String line : face) {
+            Matcher method = METHOD.matcher(line.strip());
+            if (method.matches()) due.add(method.group(1) + " " + method.group(2) + "(" + types(method.group(3)) + ")");
+        }
         Set<String> got = new TreeSet<>();
         for (Method m : AtomTables.class.getDeclaredMethods()) {
             if (Modifier.isPrivate(m.getModifiers())) continue;
@@ -43,19 +51,47 @@ public final class FaceTest {
             got.add(m.getReturnType() + " " + m.getName() + "(" + takes.substring(1, takes.length() - 1) + ")");
             Check.holds(m + " is public", Modifier.isPublic(m.getModifiers()) && !Modifier.isStatic(m.getModifiers()));
         }
+        Check.due("methods of the face", due.size(), 43);
         Check.holds("the face is " + due + ", not " + got, due.equals(got));
     }
 
-    private static void constants() throws Exception {
-        String[] names = {"NONE", "BAD", "STATE", "FULL", "NOT", "MISSING", "PLACE", "BELOW"};
-        int[] values = {-1, -2, -3, -4, -5, -11, -13, -14};
-        for (int i = 0; i < names.length; i++) {
-            Field f = AtomTables.class.getField(names[i]);
-            Check.holds(names[i] + " is an int", f.getType() == int.class);
-            Check.due(names[i], f.getInt(null), values[i]);
+    private static String types(String parameters) {
+        return parameters.replaceAll("(int|long) \\w+", "$1");
+    }
+
+    private static void constants(List<String> face) throws Exception {
+        int told = 0;
+        for (String line : face) {
+            Matcher constants = CONSTANTS.matcher(line.strip());
+            if (!constants.matches()) continue;
+            for (String one : constants.group(2).split(", ")) {
+                String[] parts = one.split(" = ");
+                Field f = AtomTables.class.getField(parts[0]);
+                Check.holds(one + " has its type", f.getType().getName().equals(constants.group(1)));
+                Check.due(one, f.getLong(null), parts[1].equals("Long.MIN_VALUE") ? Long.MIN_VALUE : Long.parseLong(parts[1]));
+                told++;
+            }
         }
-        Check.due("VOID", AtomTables.class.getField("VOID").getLong(null), Long.MIN_VALUE);
-        Check.due("constants", AtomTables.class.getFields().length, 9);
+        Check.due("constants of the face", told, 9);
+        Check.due("constants", AtomTables.class.getFields().length, told);
+    }
+
+    /** Each call has one promise, and the first promise is that of the constructor. */
+    private static void promises(List<String> document) {
+        Set<String> names = new TreeSet<>();
+        int last = 0;
+        for (String line : document) {
+            Matcher promise = PROMISE.matcher(line);
+            if (!promise.matches()) continue;
+            last++;
+            Check.due("the number of " + line, Integer.parseInt(promise.group(1)), last);
+            if (last > 1) names.add(promise.group(2));
+        }
+        Check.due("promises", last, 44);
+        for (Method m : AtomTables.class.getDeclaredMethods()) {
+            if (Modifier.isPublic(m.getModifiers())) Check.holds(m + " is promised", names.remove(m.getName()));
+        }
+        Check.holds("no promise is left: " + names, names.isEmpty());
     }
 
     private static void members() {
